@@ -81,7 +81,7 @@ public final class ModelTest {
         return random.nextInt(50) == 0 ? v : Math.max(-32768, Math.min(32767, v));
     }
 
-    /** One packet in four gets its sum mended after it, so that its codes and levels are looked at. */
+    /** Every second time the next packet's sum is mended after it, so that codes and levels are looked at. */
     private void damage() {
         int size = model.stream(-1);
         int k = random.nextInt(size + 2) - 1;

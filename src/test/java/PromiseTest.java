@@ -507,9 +507,12 @@ public final class PromiseTest {
         due("last", forge.out(false, 15), 0.0);
         forge.reset();
         refused("after reset", IndexOutOfBoundsException.class, () -> forge.out(false, 0));
-        put(forge, PLAIN);
+        even(forge, 0);
+        forge.encode();
+        due("silent, coded", forge.out(false, 15), 0.0);
         forge.decode();
-        due("decoder alone", forge.out(true, 0), 12.0);
+        due("silent, decoded", forge.out(true, 15), 0.0);
+        due("silent on both sides", forge.apart(), 0.0);
     }
 
     private static void code() {
@@ -609,13 +612,19 @@ public final class PromiseTest {
         forge.linear(false);
         put(forge, withSum(withSum(PLAIN, 1, 23), 12, 63));
         put(forge, 200);
-        for (int k = 0; k < 3; k++) {
+        forge.cut(13);
+        even(forge, 0);
+        forge.encode();
+        even(forge, 100);
+        forge.encode();
+        for (int k = 0; k < 5; k++) {
             forge.decode();
         }
+        dueCounts(forge, 0, 44, 5, 5, 1, 1, 0);
         forge.linear(true);
         frame(forge, 100);
         forge.sample(3);
-        due("how many it had", forge.reset(), 42);
+        due("how many it had", forge.reset(), 44);
         due("stream", forge.stream(-1), 0);
         int[] counts = {17, 0, 0, 0, 0, 0, 1};
         for (int what = 0; what <= 6; what++) {
@@ -669,6 +678,9 @@ public final class PromiseTest {
         forge.damage(14, 0);
         forge.decode();
         due("lost", forge.apart(), 16.0);
+        frame(forge, 64);
+        forge.encode();
+        due("in sample 0", forge.apart(), 64.0);
         VoiceForge wide = new VoiceForge();
         put(wide, withSum(with(with(PLAIN, 0, 31), 1, 30), 5, 63));
         wide.decode();

@@ -483,6 +483,8 @@ public final class CallBoundaryTest {
         forge.encode();
         due("below 0", forge.code(6), -65280);
         due("above 0", Bench.coded(32767, 32767).code(6), 51200);
+        due("far above 1, by codes 15, -15, 15 and -15",
+            Bench.coded(1, 2, 2, 3, 3, 2, 2, 1, 0, 0, -1, -2, -2, -2, -2, -1).code(6), 234240);
         due("0", Bench.coded(16).code(6), 0);
     }
 
@@ -642,14 +644,15 @@ public final class CallBoundaryTest {
         due("nothing is there", state(used), state(new VoiceForge()));
         VoiceForge fresh = new VoiceForge();
         for (VoiceForge forge : new VoiceForge[] {used, fresh}) {
-            Bench.put(forge, Bench.with(PLAIN, 0, 200));
-            forge.cut(13);
-            due("made up of nothing", forge.decode(), 2);
             Bench.even(forge, 96);
             forge.encode();
             forge.decode();
         }
         due("they go on alike", state(used), state(fresh));
+        used.reset();
+        Bench.putByte(used, 200);
+        due("made up", used.decode(), 2);
+        CHECKS.dueOut("of nothing", used, true, new double[16]);
     }
 
     private static void resetInputAndBookStay() {
@@ -685,6 +688,13 @@ public final class CallBoundaryTest {
             Bench.frame(forge, up);
             forge.encode();
             due("coder above in sample " + n, forge.apart(), 24.0);
+        }
+        for (double least : new double[] {0.25, -0.25}) {
+            VoiceForge forge = Bench.coded(4 * least, 0, 0, 0, 0, least, 0, 0, 0, 0, least);
+            Bench.frame(forge, 4 * least);
+            forge.encode();
+            forge.decode();
+            due("less than 1: " + least, forge.apart(), 0.5);
         }
         VoiceForge wide = Bench.holding(Bench.withSum(Bench.with(Bench.with(PLAIN, 0, 31), 1, 30), 5, 63));
         wide.decode();

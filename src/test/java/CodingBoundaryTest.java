@@ -24,6 +24,7 @@ public final class CodingBoundaryTest {
         codeLimits();
         codeWithoutNumber();
         weightsAtOnce();
+        restReachesBackFour();
         restStartsAtTheFrame();
         stepCodeEdges();
         stepCodeBeyondAll();
@@ -233,6 +234,17 @@ public final class CodingBoundaryTest {
         CHECKS.dueCodes("the coder's a(1)", Bench.coded(32767, 32767), 15, 8, -5, 4, -3, 3, 51200);
     }
 
+    /** Four samples, each four behind the one before, so that only a(4) is not 0: it is 0.75. */
+    private static void restReachesBackFour() {
+        says("m is the greatest |x(n) - p| with p the sum of a(j) * x(n - j), j from 1 to 4");
+        VoiceForge forge = Bench.coded(16, 0, 0, 0, 32, 0, 0, 0, 32, 0, 0, 0, 32);
+        dueFourCodes("12.3", forge, 0, 0, 0, 12);
+        due("32 less 12 is the greatest, 20", forge.code(0), 5);
+        VoiceForge more = Bench.coded(16, 0, 0, 0, 36.5, 0, 0, 0, 32, 0, 0, 0, 32);
+        dueFourCodes("12.2", more, 0, 0, 0, 12);
+        due("36.5 less 12 is the greatest, 24.5", more.code(0), 6);
+    }
+
     private static void restStartsAtTheFrame() {
         says("p the sum of a(j) * x(n - j), j from 1 to 4 (from 0 on, x before the FRAME being 0).");
         VoiceForge forge = new VoiceForge();
@@ -250,8 +262,9 @@ public final class CodingBoundaryTest {
     }
 
     /** Two samples far apart, so that the least step of the doubling book is not behind silence. */
-    private static int stepCodeFor(boolean linear, double most) {
-        return Bench.codedBy(linear, most, 0, 0, 0, 0, -most).code(0);
+    private static void dueStepCode(String what, boolean linear, double most, int g) {
+        due(what + ", above 0", Bench.codedBy(linear, most, 0, 0, 0, 0, most).code(0), g);
+        due(what + ", below 0", Bench.codedBy(linear, -most, 0, 0, 0, 0, -most).code(0), g);
     }
 
     private static void stepCodeEdges() {
@@ -260,19 +273,19 @@ public final class CodingBoundaryTest {
             for (int g = 0; g <= 15; g++) {
                 String what = (linear ? "linear " : "doubling ") + g;
                 float most = (float) (3 * step(linear, g));
-                due(what + ": just three steps", stepCodeFor(linear, most), g);
-                due(what + ": a little less", stepCodeFor(linear, Math.nextDown(most)), g);
-                due(what + ": a little more", stepCodeFor(linear, Math.nextUp(most)), Math.min(15, g + 1));
+                dueStepCode(what + ": just three steps", linear, most, g);
+                dueStepCode(what + ": a little less", linear, Math.nextDown(most), g);
+                dueStepCode(what + ": a little more", linear, Math.nextUp(most), Math.min(15, g + 1));
             }
         }
-        due("least of the linear book", stepCodeFor(true, 1), 0);
+        dueStepCode("least of the linear book", true, 1, 0);
     }
 
     private static void stepCodeBeyondAll() {
         says("not below m, else 15.");
-        due("doubling", stepCodeFor(false, 32767), 15);
-        due("linear, a little beyond", stepCodeFor(true, 723.5), 15);
-        due("linear", stepCodeFor(true, 32767), 15);
+        dueStepCode("doubling", false, 32767, 15);
+        dueStepCode("linear, a little beyond", true, 723.5, 15);
+        dueStepCode("linear", true, 32767, 15);
         due("first byte, doubling", Bench.codedBy(false, 32767).stream(0), 31);
         due("first byte, linear", Bench.codedBy(true, 32767).stream(0), 159);
     }

@@ -119,14 +119,19 @@ public final class DecodingBoundaryTest {
         }
     }
 
+    /** Each of these bytes of a packet may be 0 to the highest, the sum being right. */
+    private static void dueNotAbove(int highest, int firstByte, int lastByte) {
+        for (int k = firstByte; k <= lastByte; k++) {
+            dueKind("byte " + k + " lowest", 1, 14, Bench.withSum(PLAIN, k, 0));
+            dueKind("byte " + k + " highest", 1, 14, Bench.withSum(PLAIN, k, highest));
+            dueKind("byte " + k + " one above", 2, 14, Bench.withSum(PLAIN, k, highest + 1));
+            dueKind("byte " + k + " far above", 2, 14, Bench.withSum(PLAIN, k, 255));
+        }
+    }
+
     private static void codesNotAbove30() {
         says("the codes are not above 30");
-        for (int k = 1; k <= 4; k++) {
-            dueKind("code 0 at " + k, 1, 14, Bench.withSum(PLAIN, k, 0));
-            dueKind("code 30 at " + k, 1, 14, Bench.withSum(PLAIN, k, 30));
-            dueKind("code 31 at " + k, 2, 14, Bench.withSum(PLAIN, k, 31));
-            dueKind("code 255 at " + k, 2, 14, Bench.withSum(PLAIN, k, 255));
-        }
+        dueNotAbove(30, 1, 4);
         VoiceForge high = Bench.holding(Bench.withSum(PLAIN, 1, 30));
         high.decode();
         CHECKS.dueOut("30 is 15 sixteenths", high, true, 12, 11.25);
@@ -137,12 +142,7 @@ public final class DecodingBoundaryTest {
 
     private static void levelsNotAbove63() {
         says("the levels not above 63");
-        for (int k = 5; k <= 12; k++) {
-            dueKind("levels 0 at " + k, 1, 14, Bench.withSum(PLAIN, k, 0));
-            dueKind("levels 63 at " + k, 1, 14, Bench.withSum(PLAIN, k, 63));
-            dueKind("levels 64 at " + k, 2, 14, Bench.withSum(PLAIN, k, 64));
-            dueKind("levels 255 at " + k, 2, 14, Bench.withSum(PLAIN, k, 255));
-        }
+        dueNotAbove(63, 5, 12);
         VoiceForge forge = Bench.holding(Bench.summed(20, 15, 15, 15, 15, 0, 63, 7, 56, 36, 36, 36, 36, 0));
         forge.decode();
         CHECKS.dueOut("-4 and 3", forge, true, -16, -16, 12, 12, -16, 12, 12, -16, 0);
